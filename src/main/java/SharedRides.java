@@ -26,15 +26,24 @@ public final class SharedRides {
     private static final int CHAIN_COST_ZERO = 10000;
     private static final int NO_BOUND = 1000000;
 
-    private final Problem problem = new Problem();
-    private final Plan plan = new Plan();
-    private final History history = new History();
-    private final Timetable timetable = new Timetable(problem);
-    private final Inserter inserter = new Inserter(problem, timetable);
-    private final Mover mover = new Mover(problem, inserter);
+    private final Problem problem;
+    private final Plan plan;
+    private final History history;
+    private final Timetable timetable;
+    private final Inserter inserter;
+    private final Mover mover;
 
     /** Promise 1. */
     public SharedRides() {
+        Problem empty = new Problem();
+        Timetable times = new Timetable(empty);
+        Inserter insertions = new Inserter(empty, times);
+        problem = empty;
+        timetable = times;
+        inserter = insertions;
+        mover = new Mover(empty, insertions);
+        plan = new Plan();
+        history = new History();
     }
 
     /** Promise 2. */
@@ -49,7 +58,7 @@ public final class SharedRides {
         problem.capacity[vehicle] = capacity;
         problem.shiftFirst[vehicle] = first;
         problem.shiftLast[vehicle] = last;
-        problem.setPlace(MAX_STOPS + vehicle, x, y);
+        problem.keepPlace(MAX_STOPS + vehicle, x, y);
         problem.vehicles = vehicle + 1;
         history.forget();
         return vehicle;
@@ -64,12 +73,12 @@ public final class SharedRides {
             return FULL;
         }
         int request = problem.requests;
-        problem.setLoad(request, load);
+        problem.keepLoad(request, load);
         problem.limit[request] = limit;
-        problem.setPlace(2 * request, fromX, fromY);
-        problem.setPlace(2 * request + 1, toX, toY);
-        problem.setWindow(2 * request, 0, MAX_TIME);
-        problem.setWindow(2 * request + 1, 0, MAX_TIME);
+        problem.keepPlace(2 * request, fromX, fromY);
+        problem.keepPlace(2 * request + 1, toX, toY);
+        problem.keepWindow(2 * request, 0, MAX_TIME);
+        problem.keepWindow(2 * request + 1, 0, MAX_TIME);
         problem.requests = request + 1;
         history.forget();
         return request;
@@ -89,9 +98,9 @@ public final class SharedRides {
         if (first == oldFirst && last == oldLast) {
             return 0;
         }
-        problem.setWindow(place, first, last);
+        problem.keepWindow(place, first, last);
         if (!routeStillFits(request)) {
-            problem.setWindow(place, oldFirst, oldLast);
+            problem.keepWindow(place, oldFirst, oldLast);
             return NOT_FEASIBLE;
         }
         history.forget();
@@ -131,9 +140,9 @@ public final class SharedRides {
         if (load == old) {
             return old;
         }
-        problem.setLoad(request, load);
+        problem.keepLoad(request, load);
         if (!routeStillFits(request)) {
-            problem.setLoad(request, old);
+            problem.keepLoad(request, old);
             return NOT_FEASIBLE;
         }
         history.forget();
@@ -521,7 +530,7 @@ public final class SharedRides {
         final int[][] travel = new int[MAX_PLACES][MAX_PLACES];
 
         /** Sets the coordinates of a place, and its travel times from and to all others. */
-        void setPlace(int place, int x, int y) {
+        void keepPlace(int place, int x, int y) {
             placeX[place] = x;
             placeY[place] = y;
             for (int other = 0; other < MAX_PLACES; other++) {
@@ -531,12 +540,12 @@ public final class SharedRides {
             }
         }
 
-        void setWindow(int stop, int first, int last) {
+        void keepWindow(int stop, int first, int last) {
             windowFirst[stop] = first;
             windowLast[stop] = last;
         }
 
-        void setLoad(int request, int load) {
+        void keepLoad(int request, int load) {
             loadChange[2 * request] = load;
             loadChange[2 * request + 1] = -load;
         }

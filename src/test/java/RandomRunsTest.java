@@ -245,10 +245,15 @@ public final class RandomRunsTest {
         return oddly(random.nextInt(Math.max(1, model.count(0))), -1, model.count(0));
     }
 
-    /** The value, but now and then one of two wrong ones. */
+    /** The value, but now and then one of these two wrong ones, or one that is far out. */
     private int oddly(int value, int low, int high) {
-        int odd = random.nextInt(80);
-        return odd == 0 ? low : odd == 1 ? high : value;
+        switch (random.nextInt(160)) {
+            case 0, 1: return low;
+            case 2, 3: return high;
+            case 4: return Integer.MIN_VALUE;
+            case 5: return Integer.MAX_VALUE;
+            default: return value;
+        }
     }
 
     private static void note(int what, boolean seen) {

@@ -54,6 +54,7 @@ public final class PromisesTest {
         improve();
         improveTies();
         undo();
+        fullHouse();
         historyForgets();
         historyKeeps();
         errorsLeaveAll();
@@ -329,6 +330,53 @@ public final class PromisesTest {
         x.setWindow(0, false, 0, 500);
         want = new int[] {500, 550, 550, 590, 590, 620};
         for (int k = 0; k < 6; k++) due(want[k], x.stop(0, k, 3), "latest of stop " + k);
+        limitThatMovesOthers();
+    }
+
+    /** Windows that agree with the way, so that the ride limit alone brings stops forward. */
+    private static void limitThatMovesOthers() {
+        SharedRides x = new SharedRides();
+        x.addVehicle(0, 0, 8, 0, 1000);
+        for (int r = 0; r < 2; r++) x.addRequest(0, 0, 0, 0, 1, 50);
+        x.setWindow(0, false, 0, 100);
+        x.setWindow(1, false, 0, 200);
+        x.setWindow(0, true, 0, 300);
+        x.setWindow(1, true, 0, 400);
+        x.insert(0, 0, 0, 1);
+        x.insert(1, 0, 1, 3);
+        int[] want = {100, 150, 151, 201};
+        for (int k = 0; k < 4; k++) due(want[k], x.stop(0, k, 3), "latest of stop " + k);
+    }
+
+    /** As many vehicles and requests as there may be, all requests in one vehicle. */
+    private static void fullHouse() {
+        part = "full house";
+        SharedRides x = new SharedRides();
+        for (int v = 0; v < 4; v++) x.addVehicle(v, 0, 8, 0, 5000);
+        for (int r = 0; r < 12; r++) x.addRequest(50, 0, 50, 0, 8, 0);
+        for (int r = 0; r < 12; r++) due(r == 0 ? 94 : 0, x.assignTo(r, 3), "assignTo(" + r + ", 3)");
+        dueRow("vehicle(3)", row(8, 0, 5000, 24, 94, 8, 4095), x.vehicle(3, 0), x.vehicle(3, 1), x.vehicle(3, 2),
+            x.vehicle(3, 3), x.vehicle(3, 4), x.vehicle(3, 5), x.vehicle(3, 6));
+        due(BAD_VALUE, x.cost(0, 3, 0, 26), "cost(0, 3, 0, 26)");
+        due(ASSIGNED, x.cost(0, 3, 0, 25), "cost(0, 3, 0, 25)");
+        due(UNKNOWN, x.stop(3, 24, 0), "stop(3, 24, 0)");
+        // The best of equal insertions is before all others.
+        for (int k = 0; k < 24; k++) {
+            dueRow("stop(3, " + k + ")", row(11 - k / 2, k % 2, 47 + k, 4929 + k, k % 2 == 0 ? 8 : 0, 0),
+                x.stop(3, k, 0), x.stop(3, k, 1), x.stop(3, k, 2), x.stop(3, k, 3), x.stop(3, k, 4), x.stop(3, k, 5));
+        }
+        due(118, x.depotTime(3, true), "depotTime(3, true)");
+        due(NONE, x.improve(), "improve()");
+        for (int r = 0; r < 12; r++) due(r == 11 ? 94 : 0, x.remove(r), "remove(" + r + ")");
+        due(10, x.count(5), "count(5)");
+        for (int r = 0; r < 12; r++) x.insert(r, 3, 2 * r, 2 * r + 1);
+        due(24, x.vehicle(3, 3), "vehicle(3, 3)");
+        due(11, x.stop(3, 23, 0), "stop(3, 23, 0)");
+        x.remove(4);
+        due(10096, x.chainCost(4), "chainCost(4)");
+        due(99, x.chain(4), "chain(4)");
+        due(2, x.request(0, 0), "request(0, 0)");
+        due(4094, x.vehicle(3, 6), "vehicle(3, 6)");
     }
 
     private static void rideTime() {

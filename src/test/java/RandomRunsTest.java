@@ -50,7 +50,7 @@ public final class RandomRunsTest {
         for (int k = 0; k < 9; k++) {
             rare.append(' ').append(SEEN[k]);
             // Runs that never get to a chain or a full history would prove nothing about them.
-            if (SEEN[k] < 100) failed++;
+            if (SEEN[k] < 50) failed++;
         }
         System.out.println("seen: short and long chains, none, negative ones, improvements, undone, full histories,"
             + " refused changes, waits:" + rare);

@@ -62,7 +62,9 @@ public final class RandomRunsTest {
         int requests = random.nextInt(5) == 0 ? 12 : (crowded ? 6 : 2) + random.nextInt(7);
         for (int v = 0; v < vehicles; v++) addVehicle();
         for (int r = 0; r < requests; r++) addRequest();
-        for (int k = vehicles + requests; k < CALLS && !wrong; k++) step((crowded || calm && k > 60) && random.nextInt(40) > 0);
+        for (int k = vehicles + requests; k < CALLS && !wrong; k++) {
+            step((crowded || calm && k > 60) && random.nextInt(40) > 0);
+        }
         return !wrong;
     }
 

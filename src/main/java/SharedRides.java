@@ -357,7 +357,6 @@ public final class SharedRides {
         if (error != 0) {
             return error;
         }
-        inserter.startOver();
         inserter.tryAllBut(NO_VEHICLE, plan, request);
         return carryOutInsertion(request) ? inserter.vehicle : NOT_FEASIBLE;
     }

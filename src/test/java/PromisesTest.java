@@ -1,28 +1,5 @@
 /** Each promise of DOC.md by hand: ordinary calls, the edges that it names, and wrong calls. */
-public final class PromisesTest {
-    private static final int UNKNOWN = -1001, BAD_VALUE = -1002, ASSIGNED = -1003, NOT_ASSIGNED = -1004,
-            NOT_FEASIBLE = -1005, FULL = -1006, NONE = -1007;
-    private static final int LEAST = Integer.MIN_VALUE, MOST = Integer.MAX_VALUE;
-
-    private static int wrong = 0;
-    private static String part = "";
-
-    private static void due(int want, int got, String call) {
-        if (want != got) {
-            wrong++;
-            System.out.println(part + ": " + call + " answered " + got + ", due is " + want);
-        }
-    }
-
-    /** Several answers in a row, for calls that differ in one argument from 0 upward. */
-    private static void dueRow(String calls, int[] want, int... got) {
-        for (int k = 0; k < want.length; k++) due(want[k], got[k], calls + " number " + k);
-    }
-
-    private static int[] row(int... numbers) {
-        return numbers;
-    }
-
+public final class PromisesTest extends Checks {
     public static void main(String[] args) {
         newObject();
         addVehicle();
@@ -58,8 +35,7 @@ public final class PromisesTest {
         historyForgets();
         historyKeeps();
         errorsLeaveAll();
-        System.out.println(wrong == 0 ? "all promises hold" : wrong + " answers are wrong");
-        if (wrong != 0) System.exit(1);
+        end("all promises hold");
     }
 
     /** A vehicle at 0,0 with capacity 3, and request 0 from 10,0 to 30,0 with load 2, assigned. */
@@ -871,7 +847,7 @@ public final class PromisesTest {
         ride(x, 2);
         ride(x, 2);
         x.assign(0);
-        int[] before = shown(x);
+        int[] before = shortly(x);
         x.assign(1);
         x.assignTo(1, 0);
         x.assignTo(1, 1);
@@ -884,10 +860,10 @@ public final class PromisesTest {
         x.setLoad(0, 4);
         x.setLimit(0, 0);
         x.setWindow(0, false, 11, 12);
-        dueRow("state", before, shown(x));
+        dueRow("state", before, shortly(x));
     }
 
-    private static int[] shown(SharedRides x) {
+    private static int[] shortly(SharedRides x) {
         return row(x.count(0), x.count(1), x.count(2), x.count(3), x.count(4), x.count(5), x.stop(0, 0, 2),
             x.stop(0, 0, 3), x.stop(0, 1, 2), x.stop(0, 1, 3), x.request(0, 1), x.request(0, 2), x.request(0, 3),
             x.request(0, 4), x.request(0, 0), x.request(1, 0), x.vehicle(0, 6), x.vehicle(1, 6));

@@ -285,10 +285,10 @@ public final class SharedRides {
         Route route = plan.routes[plan.vehicleOf[request]];
         if (latest) {
             timetable.makeLatest(route);
-            return timetable.rideTime(timetable.latest, request);
+            return timetable.minutesAboard(timetable.latest, request);
         }
         timetable.fits(route);
-        return timetable.rideTime(timetable.earliest, request);
+        return timetable.minutesAboard(timetable.earliest, request);
     }
 
     /** Promise 13. */
@@ -787,8 +787,8 @@ public final class SharedRides {
             return earliest[k] - gap[k] - (k == 0 ? shiftFirst : earliest[k - 1]);
         }
 
-        /** The ride time of a request of this route in one of its schedules. */
-        int rideTime(int[] times, int request) {
+        /** The ride time of a request of this route, in one of the route's schedules. */
+        int minutesAboard(int[] times, int request) {
             int pickup = stopNumber[2 * request];
             int drop = stopNumber[2 * request + 1];
             return times[drop] - times[pickup] - problem.service;
